@@ -1,10 +1,13 @@
 import java.util.Random;
 
-/** Random runs of calls, each answer held against the model's. */
+/** Random runs of calls, each answer held against the model's; no object is used for more than 512 calls. */
 public final class ModelTest {
     private static final String[] KINDS = {"knit", "purl", "cable", "hole"};
     private static final String[] QUEENS = {"ann", "bea", "cleo", "dora", "emma"};
     private static final String[] CLAUSES = {"fish", "reef", "salt", "tide", "whale", "harbours", "crab"};
+    private static final int MOST_CALLS = 512;
+    // A text of 900 bytes and the call that reads it, with all that is asked behind them.
+    private static final int DEAREST = 110;
     private static final String[] ODD = {";", "<", ">", "=", "0", "1", "7", "12", "100", "9999", "12345", "!", "A",
         "wide", "tough", "queen", "wool", "clause", "is", "clash", "gives", "costs", "row", "knit", "purl", "cable",
         "hole", "year", "pull", "moth", "darn", "any", "when", "said", "whole", "undone", "loop", "end", "stop",
@@ -14,6 +17,7 @@ public final class ModelTest {
     private final KnitTreaty x = new KnitTreaty();
     private final Model m = new Model();
     private final StringBuilder told = new StringBuilder();
+    private int calls = 0;
     private static int wrong = 0;
     private static final java.util.Map<String, int[]> SEEN = new java.util.TreeMap<>();
 
@@ -22,7 +26,7 @@ public final class ModelTest {
     }
 
     public static void main(String[] args) {
-        int runs = args.length > 0 ? Integer.parseInt(args[0]) : 1500;
+        int runs = args.length > 0 ? Integer.parseInt(args[0]) : 4000;
         for (int seed = 0; seed < runs && wrong < 5; seed++) {
             new ModelTest(seed).play(seed);
         }
@@ -39,7 +43,7 @@ public final class ModelTest {
 
     private void play(long seed) {
         boolean same = true;
-        for (int i = 0; i < 120 && same; i++) {
+        for (int i = 0; calls < MOST_CALLS - DEAREST && same; i++) {
             if (i == 1 || random.nextInt(60) == 0) {
                 same = text(true);
             } else if (i == 2 || random.nextInt(25) == 0) {
@@ -51,6 +55,9 @@ public final class ModelTest {
         if (!same) {
             wrong++;
             System.out.println("seed " + seed + "\n" + told);
+        } else if (calls > MOST_CALLS) {
+            wrong++;
+            System.out.println("seed " + seed + " takes " + calls + " calls");
         }
     }
 
@@ -74,14 +81,26 @@ public final class ModelTest {
         return m.now.wide;
     }
 
+    /** Most calls are held with STATUS alone, some with all else that tells of the latest ones. */
     private boolean is(String call, long got, long want) {
+        calls += 2;
+        int status = x.status();
         told.append("  ").append(call).append(" => ").append(got).append(", due is ").append(want).append(" status ")
-                .append(x.status()).append("/").append(m.status).append("\n");
+                .append(status).append("/").append(m.status).append("\n");
         String name = call.indexOf('(') < 0 ? call : call.substring(0, call.indexOf('('));
         SEEN.computeIfAbsent(name + " " + m.status + (m.status == 10 ? " fault " + m.faultKind : ""),
                 k -> new int[1])[0]++;
-        return got == want && x.status() == m.status && x.top() == m.top && x.bottom() == m.bottom
-                && x.fault(0) == m.fault(0) && x.fault(1) == m.fault(1);
+        boolean same = got == want && status == m.status;
+        boolean text = name.equals("treaty") || name.equals("centuries");
+        if (same && (text || random.nextInt(20) == 0)) {
+            calls += 2;
+            same = x.fault(0) == m.fault(0) && x.fault(1) == m.fault(1);
+        }
+        if (same && (name.equals("chance") || name.equals("mean") || random.nextInt(20) == 0)) {
+            calls += 2;
+            same = x.top() == m.top && x.bottom() == m.bottom;
+        }
+        return same;
     }
 
     private boolean is(String call, boolean got, boolean want) {
@@ -106,7 +125,8 @@ public final class ModelTest {
                 int c = at + k < s.length() ? s.charAt(at + k) : ' ';
                 v[k / 4] = v[k / 4] << 8 | c & 255;
             }
-            same = is("feed()", x.feed(v[0], v[1], v[2], v[3], v[4]), m.feed(v[0], v[1], v[2], v[3], v[4]));
+            calls++;
+            same = x.feed(v[0], v[1], v[2], v[3], v[4]) == m.feed(v[0], v[1], v[2], v[3], v[4]);
         }
         int n = s.length() + (random.nextInt(15) == 0 ? random.nextInt(41) - 20 : 0);
         return same && (treaty ? is("treaty(" + n + ")", x.treaty(n), m.treaty(n))
