@@ -264,6 +264,8 @@ public final class LifeBoundsTest {
         Probe.is("the year", x.many(5), 7);
         x = of(ONE, most + "darn 0 0;year 7;any;any;");
         lives(x, "302", 0, 300, 0, 7, 0, 298, 1);
+        Probe.centuries(x, "stop;");
+        lives(x, "of live() latest", 0, 1, 0, 0, 0, 0, 0);
         Probe.says("MISSED ones count, too");
         x = of("wide 1;queen q;row q cable;", "loop 99;pull 0 0;pull 0 0;pull 0 0;end;pull 0 1;pull 0 1;darn 0 0;");
         lives(x, "all but the loop", 0, 300, 299, 0, 0, 0, 1);

@@ -182,6 +182,10 @@ public final class SaidBoundsTest {
         Probe.ok(x, "the soonest", x.firstLost(), 2);
         x.moth(1, 1);
         Probe.ok(x, "what is not SAID now is not asked", x.firstLost(), 3);
+        x = Probe.of(s + "row q cable knit;row q knit purl;");
+        Probe.ok(x, "of three at once the first", x.firstLost(), 0);
+        x.darn(0, 0);
+        Probe.ok(x, "of two at once the first", x.firstLost(), 1);
         x = Probe.of(s);
         Probe.no(x, "without ROWS", x.firstLost(), 8);
         x = Probe.of("wide 1;tough 1;queen q;row q purl;");
