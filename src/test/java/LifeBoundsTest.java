@@ -18,6 +18,7 @@ public final class LifeBoundsTest {
         means();
         meanSeeds();
         marks();
+        marksLargest();
         marksKept();
         marksFull();
         Probe.finish("lives");
@@ -247,6 +248,20 @@ public final class LifeBoundsTest {
         Probe.says("60: a STEP left to be done by the 300 alone, not by stop");
         x = of(ONE, "loop 99;darn 0 0;darn 0 0;darn 0 0;end;darn 0 0;stop;year 1;");
         lives(x, "stop as the 300th", 0, 300, 0, 0, 0, 298, 0);
+        Probe.says("a when is not done again, even where a loop stood that a stop or the 300 broke off");
+        x = of(ONE, "loop 9;stop;end;");
+        lives(x, "a loop that is broken off", 0, 2, 0, 0, 0, 0, 0);
+        Probe.ok(x, "a when in its place", Probe.centuries(x, "when undone = 0;darn 0 0;end;"), 2);
+        lives(x, "once", 0, 2, 0, 0, 0, 1, 0);
+        x = of(ONE, "loop 99;loop 99;darn 0 0;end;end;");
+        lives(x, "loops that are broken off", 0, 300, 0, 0, 0, 296, 1);
+        Probe.ok(x, "whens in their places", Probe.centuries(x, "when said a;when whole 0;darn 0 0;end;end;"), 3);
+        lives(x, "once", 0, 3, 0, 0, 0, 1, 0);
+        Probe.says("a loop that was broken off begins anew");
+        x = of(ONE, "loop 3;darn 0 0;when undone = 0;stop;end;end;");
+        lives(x, "at its first", 0, 4, 0, 0, 0, 1, 0);
+        x.moth(0, 1);
+        lives(x, "to its end", 0, 7, 0, 0, 0, 3, 0);
     }
 
     private static void threeHundred() {
@@ -292,6 +307,15 @@ public final class LifeBoundsTest {
         lives(x, "loops with nothing in them, again and again", 0, 300, 0, 2, 0, 0, 0);
         x = of(ONE, "loop 99;when undone=0;loop 99;end;loop 9;end;end;end;year 1;year 1;year 1;");
         lives(x, "one more", 0, 300, 0, 2, 0, 0, 1);
+        Probe.says("thirty STEPS, each with its end, in 300 bytes (a TOKEN goes as long as it can, so no blank is asked)");
+        x = of(ONE, Probe.times("loop9;end;", 30));
+        lives(x, "thirty loops", 0, 30, 0, 0, 0, 0, 0);
+        x = of(ONE, Probe.times("loop2;loop2;loop9;end;end;end;", 10));
+        lives(x, "thirty loops, three within one another", 0, 10 * (1 + 2 + 4), 0, 0, 0, 0, 0);
+        Probe.ok(x, "kept by a MARK", x.mark(), 1);
+        Probe.ok(x, "one STEP in its place", Probe.centuries(x, "stop;"), 1);
+        Probe.ok(x, "back", x.back(), 0);
+        lives(x, "the thirty again", 0, 70, 0, 0, 0, 0, 0);
     }
 
     private static void lived() {
@@ -427,6 +451,61 @@ public final class LifeBoundsTest {
         x.back();
         Probe.is("year", x.many(5), 0);
         Probe.worn(x, 0, 0);
+    }
+
+    private static String large(int kind, int much) {
+        String[] kinds = {"knit", "purl", "cable", "hole"};
+        StringBuilder b = new StringBuilder("wide 8;tough 50;");
+        for (int q = 0; q < 4; q++) {
+            b.append("queen q").append((char) ('a' + q)).append(" wool ").append(much + q).append(';');
+        }
+        for (int c = 0; c < 6; c++) {
+            b.append("clause c").append((char) ('a' + c)).append(" is");
+            b.append(Probe.times(" " + kinds[kind], 4)).append(' ').append(kinds[(kind + c) % 4]).append(';');
+        }
+        b.append("gives qd cf ").append(much).append(";costs qd cf ").append(much + 1).append(';');
+        for (int r = 0; r < 12; r++) {
+            b.append("row q").append((char) ('a' + (r + much) % 4)).append(' ').append(kinds[kind]).append(" 8;");
+        }
+        return b.toString();
+    }
+
+    /** The largest piece: its last STITCH, QUEEN, CLAUSE and STEP are kept, and seen by what will be. */
+    private static void marksLargest() {
+        Probe.says("all that became of it is kept, in the largest piece, too");
+        KnitTreaty x = Probe.of(large(1, 30));
+        Probe.centuries(x, Probe.times("loop9;end;", 28) + "loop9;any;end;");
+        x.year(7);
+        Probe.ok(x, "shear", x.shear(3, 5), 38);
+        x.quarrel(4, 5, true);
+        Probe.ok(x, "what the last STITCH is WORN counts", x.undoneIn(43), 96);
+        Probe.ok(x, "not ahead of that", x.undoneIn(42), 0);
+        x.darn(11, 7);
+        Probe.ok(x, "that it is DARNED counts", x.undoneIn(43), 95);
+        Probe.ok(x, "mark", x.mark(), 1);
+        x.moth(11, 6);
+        Probe.ok(x, "that another is UNDONE counts", x.pulled(11, 0), 6);
+        Probe.ok(x, "mark", x.mark(), 2);
+        Probe.ok(x, "another large piece", Probe.treaty(x, large(3, 50)), 12);
+        x.year(1);
+        x.moth(11, 7);
+        Probe.centuries(x, Probe.times("stop;", 30));
+        x.live(0);
+        Probe.ok(x, "back", x.back(), 1);
+        Probe.shows(x, 11, "PPPPPP.p");
+        Probe.worn(x, 11, 7, 7, 7, 7, 7, 7, 7, 0);
+        Probe.worn(x, 10, 7, 7, 7, 7, 7, 7, 7, 7);
+        Probe.ok(x, "back", x.back(), 0);
+        Probe.shows(x, 11, "PPPPPPPp");
+        Probe.worn(x, 11, 7, 7, 7, 7, 7, 7, 7, 0);
+        Probe.ok(x, "queenOf", x.queenOf(11), (11 + 30) % 4);
+        Probe.ok(x, "wool", x.wool(3), 38);
+        Probe.ok(x, "clash", x.clash(5, 4), 1);
+        Probe.ok(x, "worth", x.worth(3, 5, 0) * 100 + x.worth(3, 5, 1), 3031);
+        Probe.ok(x, "kind", x.kind(5, 4), 2);
+        Probe.ok(x, "length", x.length(5), 5);
+        Probe.ok(x, "the last NAME", Probe.centuries(x, "when said cf;end;"), 1);
+        lives(x, "it is not SAID", 0, 1, 0, 0, 0, 0, 0);
     }
 
     private static void marksKept() {
